@@ -23,16 +23,6 @@ public final class LetHorizon {
     private static final int MOST_WANTS = 12;
     private static final int MOST_SUM = 9999;
 
-    private static final int WEAR = 0;
-    private static final int SLIDE = 1;
-    private static final int COST = 2;
-    private static final int SUN = 3;
-
-    private static final int ACT_SET = 0;
-    private static final int ACT_LIFT = 1;
-    private static final int ACT_DROP = 2;
-    private static final int ACT_MEND = 3;
-
     private final Told told = new Told();
     private final Line line = new Line();
     private final Book book = new Book();
@@ -44,8 +34,10 @@ public final class LetHorizon {
     private final Tokens tokens = new Tokens();
     private final Reader reader = new Reader(tokens, told);
     private final Asker asker = new Asker(told);
-    private final Works works = new Works(told, asker, book, true);
-    private final Thought thought = new Thought(told, line, asker);
+    private final Works works = new Works(told, asker, book);
+    private final Line spare = new Line();
+    private final Works thinking = new Works(told, asker, null);
+    private final Thought thought = new Thought(told, line, asker, spare);
 
     public LetHorizon() {
         told.begin(FIRST_COLUMNS);
@@ -188,8 +180,19 @@ public final class LetHorizon {
     }
 
     public int text(int k) {
-        int lines = reader.read(k);
-        if (k == 1 && lines != NONE) {
+        tokens.cut();
+        tokens.length = 0;
+        switch (k) {
+            case 0: return reader.readLaw();
+            case 1: return newRoster();
+            case 2: return reader.readWants();
+            default: return NONE;
+        }
+    }
+
+    private int newRoster() {
+        int lines = reader.readRoster();
+        if (lines != NONE) {
             past.forget();
         }
         return lines;
@@ -266,7 +269,18 @@ public final class LetHorizon {
         if (!within(n, 1, 99) || !within(what, 0, 4)) {
             return NONE - 99999;
         }
-        return thought.afterHours(n, what);
+        spare.copy(line);
+        thinking.beginCounts();
+        for (int i = 0; i < n; i++) {
+            thinking.passHour(spare);
+        }
+        switch (what) {
+            case 0: return spare.coin;
+            case 1: return thought.allScraped(spare);
+            case 2: return spare.breaks;
+            case 3: return thinking.firstScraped;
+            default: return thinking.firstBroken;
+        }
     }
 
     public int meets(int hour, int what) {
@@ -405,7 +419,10 @@ public final class LetHorizon {
     }
 
     private static int hold(int v, int least, int most) {
-        return Math.max(least, Math.min(most, v));
+        if (v < least) {
+            return least;
+        }
+        return v > most ? most : v;
     }
 
     /** Which one a what of 10 and more names; NONE below that, so that nothing wraps. */
@@ -484,7 +501,7 @@ public final class LetHorizon {
             ships = 0;
             piers = 0;
             sunsets = 0;
-            law.lines = 0;
+            law.empty();
             roster.lines = 0;
             wants.lines = 0;
         }
@@ -535,16 +552,22 @@ public final class LetHorizon {
 
     /** The law, each line as two runs of postfix steps: what it tells and when. */
     private static final class Law {
+        // Words and comparisons stand in the order of their tokens.
+        private static final int WEAR = 0;
+        private static final int SLIDE = 1;
+        private static final int COST = 2;
+        private static final int SUN = 3;
+        // A step's kind: the first two put a value, the next two change one, the others join two.
         private static final int NUMBER = 0;
         private static final int NAME = 1;
-        private static final int ADD = 2;
-        private static final int TAKE = 3;
-        private static final int TIMES = 4;
-        private static final int DIVIDE = 5;
-        private static final int BELOW = 6;
-        private static final int ALIKE = 7;
-        private static final int ABOVE = 8;
-        private static final int NOT = 9;
+        private static final int DIVIDE = 2;
+        private static final int NOT = 3;
+        private static final int ADD = 4;
+        private static final int TAKE = 5;
+        private static final int TIMES = 6;
+        private static final int BELOW = 7;
+        private static final int ALIKE = 8;
+        private static final int ABOVE = 9;
         private static final int AND = 10;
         private static final int OR = 11;
         private static final int KINDS = 16;
@@ -567,6 +590,12 @@ public final class LetHorizon {
             if (steps < MOST_BYTES) {
                 step[steps] = value * KINDS + kind;
                 steps++;
+            }
+        }
+
+        private void putIfAny(int kind) {
+            if (kind != NONE) {
+                put(kind, 0);
             }
         }
 
@@ -595,9 +624,14 @@ public final class LetHorizon {
     private static final class Rows {
         private static final int CELLS = 5;
         private static final int AT = 0;
-        private static final int ACT = 1;
+        private static final int TASK = 1;
         private static final int WHICH = 2;
         private static final int GOAL = 3;
+        // Tasks stand in the order of their keywords.
+        private static final int SET = 0;
+        private static final int LIFT = 1;
+        private static final int DROP = 2;
+        private static final int MEND = 3;
         private static final int PIER = 0;
         private static final int HEIGHT = 1;
         private static final int FROM = 2;
@@ -679,8 +713,11 @@ public final class LetHorizon {
             if (count >= KEPT) {
                 dropOldest();
             }
-            kept[count].copy(now);
-            count++;
+            Line slot = kept[count];
+            if (slot != null) {
+                slot.copy(now);
+                count++;
+            }
         }
 
         private void dropOldest() {
@@ -693,11 +730,12 @@ public final class LetHorizon {
         }
 
         private boolean goBack(Line now) {
-            if (count < 1) {
+            Line latest = count < 1 ? null : kept[count - 1];
+            if (latest == null) {
                 return false;
             }
+            now.copy(latest);
             count--;
-            now.copy(kept[count]);
             return true;
         }
 
@@ -709,17 +747,37 @@ public final class LetHorizon {
     /** The tape, cut into tokens, and the first fault that was met on it. */
     private static final class Tokens {
         private static final int END = 0;
-        private static final int WORD = 1;
-        private static final int NUMBER = 2;
-        private static final int SIGN = 3;
-        private static final int MOST_DIGITS = 4;
+        private static final int NUMBER = 1;
+        private static final int STRANGE = 2;
+        // A sign is its own byte; keywords stand above all bytes, in the order in which they are listed.
+        private static final String SIGNS = ";+-*/()<=>";
+        private static final String KEYWORDS =
+            "wear slide cost sun column height worn hour day leans by when or and not at set lift drop mend to pier wants from pays ";
+        private static final int WEAR = 256;
+        private static final int SUN = WEAR + 3;
+        private static final int COLUMN = WEAR + 4;
+        private static final int BY = WEAR + 10;
+        private static final int WHEN = WEAR + 11;
+        private static final int OR = WEAR + 12;
+        private static final int AND = WEAR + 13;
+        private static final int NOT = WEAR + 14;
+        private static final int AT = WEAR + 15;
+        private static final int SET = WEAR + 16;
+        private static final int MEND = WEAR + 19;
+        private static final int TO = WEAR + 20;
+        private static final int PIER = WEAR + 21;
+        private static final int WANTS = WEAR + 22;
+        private static final int FROM = WEAR + 23;
+        private static final int PAYS = WEAR + 24;
 
         private final byte[] tape = new byte[MOST_BYTES];
         private int length;
-        private int kind;
-        private int place;
-        private int next;
-        private int value;
+        // One more than bytes, for the end.
+        private final int[] kind = new int[MOST_BYTES + 1];
+        private final int[] place = new int[MOST_BYTES + 1];
+        private final int[] value = new int[MOST_BYTES + 1];
+        private int count;
+        private int at;
         private int fault;
         private int faultPlace = NONE;
 
@@ -730,104 +788,108 @@ public final class LetHorizon {
             }
         }
 
-        private void begin() {
+        private void cut() {
             fault = 0;
             faultPlace = NONE;
-            next = 0;
-            advance();
+            count = 0;
+            at = 0;
+            int from = 0;
+            for (int i = 0; i < MOST_BYTES && from < length; i++) {
+                from = isBlank(tape[from]) ? from + 1 : cutOne(from);
+            }
+            add(END, length, 0);
+        }
+
+        /** Cuts the token that begins there; where it ends. */
+        private int cutOne(int from) {
+            int to = from + 1;
+            if (isLetter(tape[from])) {
+                while (to < length && isLetter(tape[to])) {
+                    to++;
+                }
+                add(keyword(from, to), from, 0);
+            } else if (isDigit(tape[from])) {
+                while (to < length && isDigit(tape[to])) {
+                    to++;
+                }
+                add(to - from > 4 ? STRANGE : NUMBER, from, number(from, to));
+            } else {
+                char sign = (char) (tape[from] & 255);
+                add(SIGNS.indexOf(sign) < 0 ? STRANGE : sign, from, 0);
+            }
+            return to;
+        }
+
+        private void add(int k, int p, int v) {
+            if (count < kind.length) {
+                kind[count] = k;
+                place[count] = p;
+                value[count] = v;
+                count++;
+            }
+        }
+
+        private int keyword(int from, int to) {
+            int word = WEAR;
+            int alike = from;
+            for (int i = 0; i < KEYWORDS.length(); i++) {
+                char sign = KEYWORDS.charAt(i);
+                if (sign != ' ') {
+                    alike = alike >= from && alike < to && tape[alike] == sign ? alike + 1 : NONE;
+                } else if (alike == to) {
+                    return word;
+                } else {
+                    word++;
+                    alike = from;
+                }
+            }
+            return STRANGE;
+        }
+
+        private int number(int from, int to) {
+            int number = 0;
+            for (int i = from; i < to && i < from + 4; i++) {
+                number = number * 10 + tape[i] - '0';
+            }
+            return number;
+        }
+
+        private static boolean isBlank(byte b) {
+            return b == ' ' || b == '\n';
+        }
+
+        private static boolean isLetter(byte b) {
+            return (b >= 'a' && b <= 'z') || (b >= 'A' && b <= 'Z');
+        }
+
+        private static boolean isDigit(byte b) {
+            return b >= '0' && b <= '9';
+        }
+
+        private int now() {
+            return at < count ? kind[at] : END;
+        }
+
+        private int amount() {
+            return at < count ? value[at] : 0;
+        }
+
+        private void skip() {
+            at++;
+        }
+
+        private boolean take(int k) {
+            if (now() != k) {
+                return fail(1);
+            }
+            at++;
+            return true;
         }
 
         private boolean fail(int which) {
             fault = which;
-            faultPlace = place;
+            faultPlace = at < count ? place[at] : length;
             return false;
-        }
-
-        private void advance() {
-            place = next;
-            while (place < length && isBlank(place)) {
-                place++;
-            }
-            next = place;
-            if (place >= length) {
-                kind = END;
-            } else if (isLetter(place)) {
-                passLetters();
-            } else if (isDigit(place)) {
-                passDigits();
-            } else {
-                kind = SIGN;
-                next = place + 1;
-            }
-        }
-
-        private void passLetters() {
-            kind = WORD;
-            while (next < length && isLetter(next)) {
-                next++;
-            }
-        }
-
-        private void passDigits() {
-            value = 0;
-            while (next < length && isDigit(next)) {
-                value = next - place < MOST_DIGITS ? value * 10 + tape[next] - '0' : value;
-                next++;
-            }
-            // A longer run is no token; as a sign it matches none that a text knows.
-            kind = next - place > MOST_DIGITS ? SIGN : NUMBER;
-        }
-
-        private boolean isBlank(int i) {
-            return tape[i] == ' ' || tape[i] == '\n';
-        }
-
-        private boolean isLetter(int i) {
-            return (tape[i] >= 'a' && tape[i] <= 'z') || (tape[i] >= 'A' && tape[i] <= 'Z');
-        }
-
-        private boolean isDigit(int i) {
-            return tape[i] >= '0' && tape[i] <= '9';
-        }
-
-        private boolean isWord(String word) {
-            if (kind != WORD || next - place != word.length()) {
-                return false;
-            }
-            for (int i = place; i < next; i++) {
-                if (tape[i] != word.charAt(i - place)) {
-                    return false;
-                }
-            }
-            return true;
-        }
-
-        private boolean isSign(char sign) {
-            return kind == SIGN && place < length && tape[place] == sign;
-        }
-
-        private boolean takeWord(String word) {
-            if (!isWord(word)) {
-                return fail(1);
-            }
-            advance();
-            return true;
-        }
-
-        private boolean takeSign(char sign) {
-            if (!isSign(sign)) {
-                return fail(1);
-            }
-            advance();
-            return true;
-        }
-
-        /** Takes a number within bounds; value is still that number afterwards only until the next one. */
-        private boolean checkNumber(int least, int most) {
-            if (kind != NUMBER) {
-                return fail(1);
-            }
-            return within(value, least, most) || fail(2);
         }
     }
 
@@ -837,300 +899,232 @@ public final class LetHorizon {
 
         private final Tokens tokens;
         private final Told told;
-        private final Law lawDraft = new Law();
-        private final Rows rowsDraft = new Rows();
+        private final Law law = new Law();
+        private final Rows rows = new Rows();
 
         private Reader(Tokens tokens, Told told) {
             this.tokens = tokens;
             this.told = told;
         }
 
-        private int read(int k) {
-            tokens.begin();
-            int lines = NONE;
-            if (k == 0 && readLaw()) {
-                told.law.copy(lawDraft);
-                lines = lawDraft.lines;
-            } else if (k == 1 && readRows(true)) {
-                told.roster.copy(rowsDraft);
-                lines = rowsDraft.lines;
-            } else if (k == 2 && readRows(false)) {
-                told.wants.copy(rowsDraft);
-                lines = rowsDraft.lines;
-            }
-            tokens.length = 0;
-            return lines;
-        }
-
-        private boolean readLaw() {
-            lawDraft.empty();
-            for (int i = 0; i <= MOST_LINES && tokens.kind != Tokens.END; i++) {
+        private int readLaw() {
+            law.empty();
+            for (int i = 0; i <= MOST_LINES && tokens.now() != Tokens.END; i++) {
                 if (!readLawLine()) {
-                    return false;
+                    return NONE;
                 }
             }
-            return true;
+            told.law.copy(law);
+            return law.lines;
+        }
+
+        private int readRoster() {
+            if (!readRows(Tokens.AT, MOST_LINES)) {
+                return NONE;
+            }
+            told.roster.copy(rows);
+            return rows.lines;
+        }
+
+        private int readWants() {
+            if (!readRows(Tokens.PIER, MOST_WANTS)) {
+                return NONE;
+            }
+            told.wants.copy(rows);
+            return rows.lines;
         }
 
         private boolean readLawLine() {
-            int word = lawWord();
-            if (word == NONE) {
+            int word = tokens.now();
+            if (!within(word, Tokens.WEAR, Tokens.SUN)) {
                 return tokens.fail(1);
             }
-            if (lawDraft.lines >= MOST_LINES) {
+            if (law.lines >= MOST_LINES) {
                 return tokens.fail(3);
             }
-            tokens.advance();
-            int from = lawDraft.steps;
+            tokens.skip();
+            int from = law.steps;
             if (!readSum()) {
                 return false;
             }
-            int when = lawDraft.steps;
-            if (tokens.isWord("when")) {
-                tokens.advance();
-                if (!readAny(0)) {
+            int when = law.steps;
+            if (tokens.now() == Tokens.WHEN) {
+                tokens.skip();
+                if (!readCondition(0)) {
                     return false;
                 }
             }
-            lawDraft.addLine(word, from, when);
-            return tokens.takeSign(';');
+            law.addLine(word - Tokens.WEAR, from, when);
+            return tokens.take(';');
         }
 
-        private int lawWord() {
-            if (tokens.isWord("wear")) {
-                return WEAR;
-            }
-            if (tokens.isWord("slide")) {
-                return SLIDE;
-            }
-            if (tokens.isWord("cost")) {
-                return COST;
-            }
-            return tokens.isWord("sun") ? SUN : NONE;
-        }
-
-        private int lawName() {
-            if (tokens.isWord("column")) {
-                return Asker.COLUMN;
-            }
-            if (tokens.isWord("height")) {
-                return Asker.HEIGHT;
-            }
-            if (tokens.isWord("worn")) {
-                return Asker.WORN;
-            }
-            if (tokens.isWord("hour")) {
-                return Asker.HOUR;
-            }
-            if (tokens.isWord("day")) {
-                return Asker.WHICH_DAY;
-            }
-            if (tokens.isWord("leans")) {
-                return Asker.LEANS;
-            }
-            return tokens.isWord("by") ? Asker.BY : NONE;
-        }
-
-        private boolean readAny(int open) {
-            if (!readAll(open)) {
-                return false;
-            }
-            for (int i = 0; i < MOST_BYTES && tokens.isWord("or"); i++) {
-                tokens.advance();
-                if (!readAll(open)) {
-                    return false;
+        /** An or waits until all that is joined by and behind it is read. */
+        private boolean readCondition(int open) {
+            boolean waits = false;
+            boolean fine = readOne(open);
+            for (int i = 0; fine && i < MOST_BYTES; i++) {
+                int join = tokens.now();
+                if (join != Tokens.OR && join != Tokens.AND) {
+                    break;
                 }
-                lawDraft.put(Law.OR, 0);
-            }
-            return true;
-        }
-
-        private boolean readAll(int open) {
-            if (!readOne(open)) {
-                return false;
-            }
-            for (int i = 0; i < MOST_BYTES && tokens.isWord("and"); i++) {
-                tokens.advance();
-                if (!readOne(open)) {
-                    return false;
+                tokens.skip();
+                if (join == Tokens.OR && waits) {
+                    law.put(Law.OR, 0);
                 }
-                lawDraft.put(Law.AND, 0);
+                waits |= join == Tokens.OR;
+                fine = readOne(open);
+                if (join == Tokens.AND) {
+                    law.put(Law.AND, 0);
+                }
             }
-            return true;
+            if (waits) {
+                law.put(Law.OR, 0);
+            }
+            return fine;
         }
 
         private boolean readOne(int open) {
-            boolean denied = tokens.isWord("not");
-            if (!denied && !tokens.isSign('(')) {
-                return readComparison();
+            int first = tokens.now();
+            if (first == Tokens.NOT || first == '(') {
+                return open < DEEPEST ? readNested(open + 1, first) : tokens.fail(3);
             }
-            if (open >= DEEPEST) {
-                return tokens.fail(3);
-            }
-            tokens.advance();
-            if (!denied) {
-                return readAny(open + 1) && tokens.takeSign(')');
-            }
-            if (!readOne(open + 1)) {
-                return false;
-            }
-            lawDraft.put(Law.NOT, 0);
-            return true;
-        }
-
-        private boolean readComparison() {
             if (!readSum()) {
                 return false;
             }
-            int kind = comparison();
-            if (kind == NONE) {
+            int sign = tokens.now();
+            if (!within(sign, '<', '>')) {
                 return tokens.fail(1);
             }
-            tokens.advance();
+            tokens.skip();
             if (!readSum()) {
                 return false;
             }
-            lawDraft.put(kind, 0);
+            law.put(Law.BELOW + sign - '<', 0);
             return true;
         }
 
-        private int comparison() {
-            if (tokens.isSign('<')) {
-                return Law.BELOW;
+        private boolean readNested(int open, int first) {
+            tokens.skip();
+            if (first == '(') {
+                return readCondition(open) && tokens.take(')');
             }
-            if (tokens.isSign('=')) {
-                return Law.ALIKE;
-            }
-            return tokens.isSign('>') ? Law.ABOVE : NONE;
+            boolean fine = readOne(open);
+            law.put(Law.NOT, 0);
+            return fine;
         }
 
+        /** A plus or minus waits until the product behind it is read. */
         private boolean readSum() {
-            if (!readProduct()) {
-                return false;
-            }
-            for (int i = 0; i < MOST_BYTES && (tokens.isSign('+') || tokens.isSign('-')); i++) {
-                int kind = tokens.isSign('+') ? Law.ADD : Law.TAKE;
-                tokens.advance();
-                if (!readProduct()) {
-                    return false;
-                }
-                lawDraft.put(kind, 0);
-            }
-            return true;
-        }
-
-        private boolean readProduct() {
-            if (!readOperand()) {
-                return false;
-            }
-            for (int i = 0; i < MOST_BYTES && (tokens.isSign('*') || tokens.isSign('/')); i++) {
-                boolean times = tokens.isSign('*');
-                tokens.advance();
-                if (!(times ? readFactor() : readDivisor())) {
-                    return false;
+            int waits = NONE;
+            boolean fine = readOperand();
+            for (int i = 0; fine && i < MOST_BYTES; i++) {
+                int sign = tokens.now();
+                if (sign == '*') {
+                    tokens.skip();
+                    fine = readOperand();
+                    law.put(Law.TIMES, 0);
+                } else if (sign == '/') {
+                    tokens.skip();
+                    fine = readDivisor();
+                } else if (sign == '+' || sign == '-') {
+                    tokens.skip();
+                    law.putIfAny(waits);
+                    waits = sign == '+' ? Law.ADD : Law.TAKE;
+                    fine = readOperand();
+                } else {
+                    break;
                 }
             }
-            return true;
+            law.putIfAny(waits);
+            return fine;
         }
 
-        private boolean readFactor() {
-            if (!readOperand()) {
-                return false;
+        private boolean readOperand() {
+            int kind = tokens.now();
+            if (kind == Tokens.NUMBER) {
+                law.put(Law.NUMBER, tokens.amount());
+            } else if (within(kind, Tokens.COLUMN, Tokens.BY)) {
+                law.put(Law.NAME, kind - Tokens.COLUMN);
+            } else {
+                return tokens.fail(1);
             }
-            lawDraft.put(Law.TIMES, 0);
+            tokens.skip();
             return true;
         }
 
         private boolean readDivisor() {
-            if (!tokens.checkNumber(1, 9999)) {
-                return false;
+            if (tokens.now() != Tokens.NUMBER) {
+                return tokens.fail(1);
             }
-            lawDraft.put(Law.DIVIDE, tokens.value);
-            tokens.advance();
+            if (tokens.amount() < 1) {
+                return tokens.fail(2);
+            }
+            law.put(Law.DIVIDE, tokens.amount());
+            tokens.skip();
             return true;
         }
 
-        private boolean readOperand() {
-            int name = lawName();
-            if (name != NONE) {
-                lawDraft.put(Law.NAME, name);
-            } else if (tokens.checkNumber(0, 9999)) {
-                lawDraft.put(Law.NUMBER, tokens.value);
-            } else {
-                return false;
-            }
-            tokens.advance();
-            return true;
-        }
-
-        private boolean readRows(boolean roster) {
-            rowsDraft.lines = 0;
-            for (int i = 0; i <= MOST_LINES && tokens.kind != Tokens.END; i++) {
-                boolean fine = roster
-                    ? beginRow("at", MOST_LINES) && readRosterRow()
-                    : beginRow("pier", MOST_WANTS) && readWant();
-                if (!fine || !tokens.takeSign(';')) {
+        private boolean readRows(int word, int most) {
+            rows.lines = 0;
+            for (int i = 0; i <= most && tokens.now() != Tokens.END; i++) {
+                if (tokens.now() == word && rows.lines >= most) {
+                    return tokens.fail(3);
+                }
+                if (!tokens.take(word)) {
                     return false;
                 }
-                rowsDraft.lines++;
+                if (!(word == Tokens.AT ? readTask() : readWant()) || !tokens.take(';')) {
+                    return false;
+                }
+                rows.lines++;
             }
             return true;
         }
 
-        private boolean beginRow(String word, int most) {
-            if (tokens.isWord(word) && rowsDraft.lines >= most) {
-                return tokens.fail(3);
-            }
-            return tokens.takeWord(word);
-        }
-
-        private boolean readRosterRow() {
+        private boolean readTask() {
             if (!readCell(Rows.AT, 0, 999)) {
                 return false;
             }
-            if (tokens.isWord("set")) {
-                return readAct(ACT_SET, 0, told.w - 1)
-                    && tokens.takeWord("to") && readCell(Rows.GOAL, 0, TOP);
+            int task = tokens.now() - Tokens.SET;
+            if (!within(task, Rows.SET, Rows.MEND)) {
+                return tokens.fail(1);
             }
-            if (tokens.isWord("lift")) {
-                return readAct(ACT_LIFT, 1, MOST_LIFT);
+            tokens.skip();
+            rows.put(Rows.TASK, task);
+            if (task == Rows.LIFT || task == Rows.DROP) {
+                return readCell(Rows.WHICH, 1, MOST_LIFT);
             }
-            if (tokens.isWord("drop")) {
-                return readAct(ACT_DROP, 1, MOST_LIFT);
+            if (!readCell(Rows.WHICH, 0, told.w - 1)) {
+                return false;
             }
-            if (tokens.isWord("mend")) {
-                return readAct(ACT_MEND, 0, told.w - 1);
-            }
-            return tokens.fail(1);
-        }
-
-        private boolean readAct(int act, int least, int most) {
-            rowsDraft.put(Rows.ACT, act);
-            tokens.advance();
-            return readCell(Rows.WHICH, least, most);
+            return task == Rows.MEND || (tokens.take(Tokens.TO) && readCell(Rows.GOAL, 0, TOP));
         }
 
         private boolean readWant() {
             return readCell(Rows.PIER, 0, told.piers - 1)
-                && tokens.takeWord("wants") && readCell(Rows.HEIGHT, 0, TOP)
-                && tokens.takeWord("from") && readCell(Rows.FROM, 0, DAY - 1)
-                && tokens.takeWord("to")
-                && readCell(Rows.UNTIL, rowsDraft.cell(rowsDraft.lines, Rows.FROM), DAY - 1)
-                && tokens.takeWord("pays") && readCell(Rows.PAYS, 0, 99);
+                && tokens.take(Tokens.WANTS) && readCell(Rows.HEIGHT, 0, TOP)
+                && tokens.take(Tokens.FROM) && readCell(Rows.FROM, 0, DAY - 1)
+                && tokens.take(Tokens.TO)
+                && readCell(Rows.UNTIL, rows.cell(rows.lines, Rows.FROM), DAY - 1)
+                && tokens.take(Tokens.PAYS) && readCell(Rows.PAYS, 0, 99);
         }
 
         private boolean readCell(int k, int least, int most) {
-            if (!tokens.checkNumber(least, most)) {
-                return false;
+            if (tokens.now() != Tokens.NUMBER) {
+                return tokens.fail(1);
             }
-            rowsDraft.put(k, tokens.value);
-            tokens.advance();
+            if (!within(tokens.amount(), least, most)) {
+                return tokens.fail(2);
+            }
+            rows.put(k, tokens.amount());
+            tokens.skip();
             return true;
         }
     }
 
     /** Asks the law about a column of a line of heights. */
     private static final class Asker {
+        // Names stand in the order of their keywords.
         private static final int COLUMN = 0;
         private static final int HEIGHT = 1;
         private static final int WORN = 2;
@@ -1139,45 +1133,37 @@ public final class LetHorizon {
         private static final int LEANS = 5;
         private static final int BY = 6;
         private static final int NAMES = 7;
-        // Two for each of nine open conditions and four for a sum are the most that wait at once.
+        // Two for each of nine conditions, one in the other, and four for a sum are the most that wait at once.
         private static final int DEEPEST = 32;
 
         private final Told told;
         private final int[] named = new int[NAMES];
         private final int[] stack = new int[DEEPEST];
-        private int top;
 
         private Asker(Told told) {
             this.told = told;
         }
 
         private int wear(Line l, int c) {
-            name(l, c);
-            return hold(tell(WEAR), 0, MOST_WORN);
+            return hold(ask(Law.WEAR, l, c, l.hour % DAY, 0), 0, MOST_WORN);
         }
 
         private int slide(Line l, int c) {
-            name(l, c);
-            return hold(tell(SLIDE), 0, TOP);
+            return hold(ask(Law.SLIDE, l, c, l.hour % DAY, 0), 0, TOP);
         }
 
         private int cost(Line l, int c, int goal) {
-            name(l, c);
-            named[BY] = Math.max(0, goal - named[HEIGHT]);
-            return hold(tell(COST), 0, 999);
+            int by = goal > l.height[c] ? goal - l.height[c] : 0;
+            return hold(ask(Law.COST, l, c, l.hour % DAY, by), 0, 999);
         }
 
         private int sunAt(Line l, int c, int hour) {
-            name(l, c);
-            named[HOUR] = hour;
-            return hold(tell(SUN), 0, 99);
+            return hold(ask(Law.SUN, l, c, hour, 0), 0, 99);
         }
 
         private int dusk(Line l, int c) {
-            name(l, c);
             for (int hour = 0; hour < DAY; hour++) {
-                named[HOUR] = hour;
-                if (hold(tell(SUN), 0, 99) <= named[HEIGHT]) {
+                if (sunAt(l, c, hour) <= l.height[c]) {
                     return hour;
                 }
             }
@@ -1185,117 +1171,85 @@ public final class LetHorizon {
         }
 
         private int leans(Line l, int c) {
-            int below = told.isColumn(c - 1) ? Math.abs(l.height[c] - l.height[c - 1]) : 0;
-            int above = told.isColumn(c + 1) ? Math.abs(l.height[c] - l.height[c + 1]) : 0;
-            return Math.max(below, above);
+            int here = l.height[c];
+            int below = c > 0 ? l.height[c - 1] : here;
+            int above = c + 1 < told.w ? l.height[c + 1] : here;
+            int low = below < above ? below : above;
+            int high = below < above ? above : below;
+            return here - low > high - here ? here - low : high - here;
         }
 
-        private void name(Line l, int c) {
+        private int ask(int word, Line l, int c, int hour, int by) {
             named[COLUMN] = c;
             named[HEIGHT] = l.height[c];
             named[WORN] = l.worn[c];
-            named[HOUR] = l.hour % DAY;
+            named[HOUR] = hour;
             named[WHICH_DAY] = l.hour / DAY;
             named[LEANS] = leans(l, c);
-            named[BY] = 0;
-        }
-
-        private int tell(int word) {
+            named[BY] = by;
             Law law = told.law;
             for (int i = 0; i < law.lines; i++) {
-                if (law.word[i] == word && holds(law, i)) {
-                    return work(law, law.start[i], law.middle[i]);
+                if (law.word[i] == word
+                        && (law.middle[i] == law.stop[i] || work(law.middle[i], law.stop[i]) != 0)) {
+                    return work(law.start[i], law.middle[i]);
                 }
             }
             return unlessTold(word);
         }
 
-        private boolean holds(Law law, int i) {
-            return law.middle[i] == law.stop[i] || work(law, law.middle[i], law.stop[i]) != 0;
-        }
-
         private int unlessTold(int word) {
             switch (word) {
-                case WEAR: return named[LEANS];
-                case SLIDE: return 2;
-                case COST: return named[BY];
+                case Law.WEAR: return named[LEANS];
+                case Law.SLIDE: return 2;
+                case Law.COST: return named[BY];
                 default: return 60 - 3 * named[HOUR];
             }
         }
 
-        private int work(Law law, int from, int to) {
-            top = 0;
-            for (int i = from; i < to && i < MOST_BYTES; i++) {
-                workStep(law.step[i] % Law.KINDS, law.step[i] / Law.KINDS);
+        private int work(int from, int to) {
+            int[] steps = told.law.step;
+            int top = 0;
+            for (int i = from; i < to && i < steps.length; i++) {
+                int kind = steps[i] % Law.KINDS;
+                int value = steps[i] / Law.KINDS;
+                int b = top > 0 ? stack[top - 1] : 0;
+                int a = top > 1 ? stack[top - 2] : 0;
+                top += Law.NOT < kind ? -1 : kind < Law.DIVIDE ? 1 : 0;
+                if (top < 1 || top > DEEPEST) {
+                    return 0;
+                }
+                switch (kind) {
+                    case Law.NUMBER: stack[top - 1] = value; break;
+                    case Law.NAME: stack[top - 1] = value < NAMES ? named[value] : 0; break;
+                    case Law.DIVIDE: stack[top - 1] = value > 0 ? b / value : 0; break;
+                    case Law.NOT: stack[top - 1] = 1 - b; break;
+                    case Law.ADD: stack[top - 1] = a + b; break;
+                    case Law.TAKE: stack[top - 1] = a - b; break;
+                    case Law.TIMES: stack[top - 1] = a * b; break;
+                    case Law.BELOW: stack[top - 1] = a < b ? 1 : 0; break;
+                    case Law.ALIKE: stack[top - 1] = a == b ? 1 : 0; break;
+                    case Law.ABOVE: stack[top - 1] = a > b ? 1 : 0; break;
+                    case Law.AND: stack[top - 1] = a & b; break;
+                    default: stack[top - 1] = a | b; break;
+                }
             }
-            return pop();
-        }
-
-        private void workStep(int kind, int value) {
-            switch (kind) {
-                case Law.NUMBER:
-                    push(value);
-                    break;
-                case Law.NAME:
-                    push(within(value, 0, NAMES - 1) ? named[value] : 0);
-                    break;
-                case Law.DIVIDE:
-                    push(value < 1 ? 0 : pop() / value);
-                    break;
-                case Law.NOT:
-                    push(1 - pop());
-                    break;
-                default:
-                    int second = pop();
-                    push(join(kind, pop(), second));
-                    break;
-            }
-        }
-
-        private static int join(int kind, int a, int b) {
-            switch (kind) {
-                case Law.ADD: return a + b;
-                case Law.TAKE: return a - b;
-                case Law.TIMES: return a * b;
-                case Law.BELOW: return a < b ? 1 : 0;
-                case Law.ALIKE: return a == b ? 1 : 0;
-                case Law.ABOVE: return a > b ? 1 : 0;
-                case Law.AND: return a & b;
-                default: return a | b;
-            }
-        }
-
-        private void push(int v) {
-            if (top < DEEPEST) {
-                stack[top] = v;
-                top++;
-            }
-        }
-
-        private int pop() {
-            if (top < 1) {
-                return 0;
-            }
-            top--;
-            return stack[top];
+            return top < 1 ? 0 : stack[top - 1];
         }
     }
 
-    /** What is done to a line of heights, by hand or by hours; in thought without gusts and book. */
+    /** What is done to a line of heights, by hand or by hours; in thought, without a book, no gust comes. */
     private static final class Works {
         private final Told told;
         private final Asker asker;
         private final Book book;
-        private final boolean real;
         private int paid;
         private int firstScraped;
         private int firstBroken;
 
-        private Works(Told told, Asker asker, Book book, boolean real) {
+        private Works(Told told, Asker asker, Book book) {
             this.told = told;
             this.asker = asker;
             this.book = book;
-            this.real = real;
         }
 
         private void beginCounts() {
@@ -1305,7 +1259,7 @@ public final class LetHorizon {
         }
 
         private void note(Line l, int what, int which, int much) {
-            if (real) {
+            if (book != null) {
                 book.write(l, what, which, much);
             }
         }
@@ -1335,44 +1289,32 @@ public final class LetHorizon {
         }
 
         private void passHour(Line l) {
-            followRoster(l);
+            for (int i = 0; i < told.roster.lines; i++) {
+                if (told.roster.cell(i, Rows.AT) == l.hour) {
+                    doTask(l, i);
+                }
+            }
             slideShips(l);
             scrapeShips(l);
             payWants(l);
             wearColumns(l);
-            if (real && told.gusts > 0) {
-                gust(l);
+            if (book != null && told.gusts > 0) {
+                drawGust(l);
             }
             l.hour++;
         }
 
-        private void followRoster(Line l) {
-            for (int i = 0; i < told.roster.lines; i++) {
-                if (told.roster.cell(i, Rows.AT) == l.hour) {
-                    followRow(l, i);
-                }
-            }
-        }
-
-        private void followRow(Line l, int i) {
+        private void doTask(Line l, int i) {
+            int task = told.roster.cell(i, Rows.TASK);
             int which = told.roster.cell(i, Rows.WHICH);
-            switch (told.roster.cell(i, Rows.ACT)) {
-                case ACT_LIFT:
-                    moveAll(l, which);
-                    break;
-                case ACT_DROP:
-                    moveAll(l, -which);
-                    break;
-                case ACT_MEND:
-                    if (told.isColumn(which)) {
-                        mendColumn(l, which);
-                    }
-                    break;
-                default:
-                    if (told.isColumn(which)) {
-                        setColumn(l, which, told.roster.cell(i, Rows.GOAL));
-                    }
-                    break;
+            if (task == Rows.LIFT) {
+                moveAll(l, which);
+            } else if (task == Rows.DROP) {
+                moveAll(l, -which);
+            } else if (told.isColumn(which) && task == Rows.MEND) {
+                mendColumn(l, which);
+            } else if (told.isColumn(which)) {
+                setColumn(l, which, told.roster.cell(i, Rows.GOAL));
             }
         }
 
@@ -1388,10 +1330,10 @@ public final class LetHorizon {
         }
 
         private int lowerBeside(Line l, int c) {
-            if (!told.isColumn(c - 1)) {
+            if (c < 1) {
                 return c + 1;
             }
-            if (!told.isColumn(c + 1)) {
+            if (c + 1 >= told.w) {
                 return c - 1;
             }
             return l.height[c + 1] < l.height[c - 1] ? c + 1 : c - 1;
@@ -1440,7 +1382,7 @@ public final class LetHorizon {
             note(l, Book.BROKEN, c, ahead);
         }
 
-        private void gust(Line l) {
+        private void drawGust(Line l) {
             if (l.draw(1000) < told.gusts) {
                 int c = l.draw(told.w);
                 l.height[c] = Math.max(0, l.height[c] - 1);
@@ -1454,13 +1396,12 @@ public final class LetHorizon {
         private static final int HEIGHTS = TOP + 1;
         private static final int SHIP_SETS = 1 << MOST_SHIPS;
         private static final int WANT_SETS = 1 << MOST_WANTS;
-        private static final long NO_WAY = Long.MAX_VALUE;
+        private static final long NO_WAY = 1L << 62;
 
         private final Told told;
         private final Line line;
         private final Asker asker;
-        private final Line spare = new Line();
-        private final Works works;
+        private final Line spare;
         private final int[] clash = new int[MOST_WANTS];
         private final int[] pays = new int[MOST_WANTS];
         private final int[][] feet = new int[MOST_COLUMNS][HEIGHTS];
@@ -1468,26 +1409,11 @@ public final class LetHorizon {
         private final long[] ways = new long[SHIP_SETS];
         private final int[] weight = new int[MOST_PIERS];
 
-        private Thought(Told told, Line line, Asker asker) {
+        private Thought(Told told, Line line, Asker asker, Line spare) {
             this.told = told;
             this.line = line;
             this.asker = asker;
-            this.works = new Works(told, asker, null, false);
-        }
-
-        private int afterHours(int n, int what) {
-            spare.copy(line);
-            works.beginCounts();
-            for (int i = 0; i < n; i++) {
-                works.passHour(spare);
-            }
-            switch (what) {
-                case 0: return spare.coin;
-                case 1: return allScraped(spare);
-                case 2: return spare.breaks;
-                case 3: return works.firstScraped;
-                default: return works.firstBroken;
-            }
+            this.spare = spare;
         }
 
         private int allScraped(Line l) {
@@ -1533,7 +1459,16 @@ public final class LetHorizon {
             for (int i = 0; i < told.wants.lines; i++) {
                 int others = clash[i] & wanted;
                 if ((wanted >> i & 1) == 1 && others != 0) {
-                    return first ? i : Integer.numberOfTrailingZeros(others);
+                    return first ? i : lowest(others);
+                }
+            }
+            return NONE;
+        }
+
+        private static int lowest(int set) {
+            for (int i = 0; i < MOST_WANTS; i++) {
+                if ((set >> i & 1) == 1) {
+                    return i;
                 }
             }
             return NONE;
@@ -1547,12 +1482,16 @@ public final class LetHorizon {
             if (i < 0 || i >= clash.length) {
                 return WANT_SETS - 1;
             }
-            int without = bestMet(clash, pays, i - 1, free & ~(1 << i));
-            if ((free >> i & 1) == 0) {
-                return without;
+            int others = free & ~(1 << i);
+            if (others == free) {
+                return bestMet(clash, pays, i - 1, others);
             }
-            int with = bestMet(clash, pays, i - 1, free & ~(1 << i) & ~clash[i]);
-            return Math.max(without, with + pays[i] * WANT_SETS - (1 << i));
+            int with = bestMet(clash, pays, i - 1, others & ~clash[i]) + pays[i] * WANT_SETS - (1 << i);
+            // What pays and clashes with none is in every best set: no need to try without.
+            if (pays[i] > 0 && (others & clash[i]) == 0) {
+                return with;
+            }
+            return Math.max(with, bestMet(clash, pays, i - 1, others));
         }
 
         private int smoothed(int column) {
