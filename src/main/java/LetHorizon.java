@@ -986,7 +986,16 @@ public final class LetHorizon {
         private boolean readOne(int open) {
             int first = tokens.now();
             if (first == Tokens.NOT || first == '(') {
-                return open < DEEPEST ? readNested(open + 1, first) : tokens.fail(3);
+                if (open >= DEEPEST) {
+                    return tokens.fail(3);
+                }
+                tokens.skip();
+                if (first == '(') {
+                    return readCondition(open + 1) && tokens.take(')');
+                }
+                boolean fine = readOne(open + 1);
+                law.put(Law.NOT, 0);
+                return fine;
             }
             if (!readSum()) {
                 return false;
@@ -1001,16 +1010,6 @@ public final class LetHorizon {
             }
             law.put(Law.BELOW + sign - '<', 0);
             return true;
-        }
-
-        private boolean readNested(int open, int first) {
-            tokens.skip();
-            if (first == '(') {
-                return readCondition(open) && tokens.take(')');
-            }
-            boolean fine = readOne(open);
-            law.put(Law.NOT, 0);
-            return fine;
         }
 
         /** A plus or minus waits until the product behind it is read. */
@@ -1145,25 +1144,32 @@ public final class LetHorizon {
         }
 
         private int wear(Line l, int c) {
-            return hold(ask(Law.WEAR, l, c, l.hour % DAY, 0), 0, MOST_WORN);
+            name(l, c);
+            return hold(tell(Law.WEAR), 0, MOST_WORN);
         }
 
         private int slide(Line l, int c) {
-            return hold(ask(Law.SLIDE, l, c, l.hour % DAY, 0), 0, TOP);
+            name(l, c);
+            return hold(tell(Law.SLIDE), 0, TOP);
         }
 
         private int cost(Line l, int c, int goal) {
-            int by = goal > l.height[c] ? goal - l.height[c] : 0;
-            return hold(ask(Law.COST, l, c, l.hour % DAY, by), 0, 999);
+            name(l, c);
+            named[BY] = goal > l.height[c] ? goal - l.height[c] : 0;
+            return hold(tell(Law.COST), 0, 999);
         }
 
         private int sunAt(Line l, int c, int hour) {
-            return hold(ask(Law.SUN, l, c, hour, 0), 0, 99);
+            name(l, c);
+            named[HOUR] = hour;
+            return hold(tell(Law.SUN), 0, 99);
         }
 
         private int dusk(Line l, int c) {
+            name(l, c);
             for (int hour = 0; hour < DAY; hour++) {
-                if (sunAt(l, c, hour) <= l.height[c]) {
+                named[HOUR] = hour;
+                if (hold(tell(Law.SUN), 0, 99) <= l.height[c]) {
                     return hour;
                 }
             }
@@ -1179,14 +1185,17 @@ public final class LetHorizon {
             return here - low > high - here ? here - low : high - here;
         }
 
-        private int ask(int word, Line l, int c, int hour, int by) {
+        private void name(Line l, int c) {
             named[COLUMN] = c;
             named[HEIGHT] = l.height[c];
             named[WORN] = l.worn[c];
-            named[HOUR] = hour;
+            named[HOUR] = l.hour % DAY;
             named[WHICH_DAY] = l.hour / DAY;
             named[LEANS] = leans(l, c);
-            named[BY] = by;
+            named[BY] = 0;
+        }
+
+        private int tell(int word) {
             Law law = told.law;
             for (int i = 0; i < law.lines; i++) {
                 if (law.word[i] == word
