@@ -449,10 +449,6 @@ public final class LetHorizon {
                 height[c] = FIRST_HEIGHT;
                 worn[c] = 0;
             }
-            for (int s = 0; s < MOST_SHIPS; s++) {
-                at[s] = 0;
-                scraped[s] = 0;
-            }
             coin = 0;
             breaks = 0;
             hour = 0;
@@ -763,7 +759,6 @@ public final class LetHorizon {
         private static final int NOT = WEAR + 14;
         private static final int AT = WEAR + 15;
         private static final int SET = WEAR + 16;
-        private static final int MEND = WEAR + 19;
         private static final int TO = WEAR + 20;
         private static final int PIER = WEAR + 21;
         private static final int WANTS = WEAR + 22;

@@ -128,6 +128,17 @@ public final class PromisesTest {
         due("W again", x.look(0), 10);
         due("sea(3)", x.sea(3), true);
         due("no column 3", x.of(3, 0), -2);
+        x.ship(0, 40);
+        x.set(2, 0, 99);
+        x.hours(2);
+        due("breaks", x.look(7), 1);
+        due("scraped", x.shipOf(0, 2), 2);
+        x.sea(3);
+        due("hour as at first", x.look(3), 0);
+        due("breaks as at first", x.look(7), 0);
+        due("no ship", x.shipOf(0, 2), NONE);
+        x.ship(1, 1);
+        due("a new ship has not scraped", x.shipOf(0, 2), 0);
     }
 
     private static void ships() {
@@ -531,6 +542,67 @@ public final class PromisesTest {
         due("closed ones are not open", tell(x, 0, "sun 1 when ((((((((1=1) and (2=2)))))))) or (not 1=1);"), 1);
         faulty(x, 0, "sun 1 when " + times("(", 8) + "1=1) and not (1=1)", 3, 32);
         faulty(x, 0, "sun 1 (", 1, 6);
+        String others = "column height worn hour day leans by when or and not at set lift drop mend to pier wants from pays";
+        for (String word : others.split(" ")) faulty(x, 0, word + " 1;", 1, 0);
+        String noUnits = "wear slide cost sun when or and not at set lift drop mend to pier wants from pays";
+        for (String word : noUnits.split(" ")) {
+            faulty(x, 0, "wear " + word + ";", 1, 5);
+            faulty(x, 0, "wear 1+" + word + ";", 1, 7);
+            faulty(x, 0, "wear 1*" + word + ";", 1, 7);
+            faulty(x, 0, "wear 1 when 1=" + word + ";", 1, 14);
+        }
+        for (char letter : "azAZmM".toCharArray()) faulty(x, 0, "wear" + letter + " 1;", 1, 0);
+        for (char sign : "@[`{_.,:?!%&'\"#~\r".toCharArray()) faulty(x, 0, "wear" + sign + " 1;", 1, 4);
+        for (int b : new int[] {0, 1, 2, 9, 31, 127, 128, 160, 225, 255}) faulty(x, 0, "wear 1" + (char) b + ";", 1, 6);
+    }
+
+    private static void longLaws() {
+        promise = 13;
+        LetHorizon x = new LetHorizon();
+        String law = "";
+        for (int i = 0; i < 15; i++) law += "wear " + i + " when column>" + (14 - i) + ";";
+        for (int again = 0; again < 12; again++) {
+            due("fifteen lines", tell(x, 0, law), 15);
+            due("the last one", tell(x, 0, law + "wear 7*1;"), 16);
+            due("wear", x.of(9, 2), 6);
+            due("wear", x.of(0, 2), 7);
+        }
+        String longest = "sun 1" + times("+1", 197) + ";";
+        due("400 bytes", longest.length(), 400);
+        due("a long sum", tell(x, 0, longest), 1);
+        due("held", x.sun(0, 0), 99);
+        due("a long sum", tell(x, 0, "sun 98" + times("+1-1", 97) + "+1;"), 1);
+        due("sun", x.sun(0, 0), 99);
+        due("deep and wide", tell(x, 0, "wear 1 when " + times("1=2 or 1=1 and (", 8) + "1+1*1=2*1*1+0" + times(")", 8) + ";wear 2;"), 2);
+        due("so", x.of(0, 2), 1);
+        due("deep and wide", tell(x, 0, "wear 1 when " + times("1=2 or 1=1 and (", 8) + "1+1*1=2*1*1+1" + times(")", 8) + ";wear 2;"), 2);
+        due("not so", x.of(0, 2), 2);
+    }
+
+    /** Each comparison and joining, with what is below, alike and above. */
+    private static void conditions() {
+        promise = 15;
+        String[] so = {"1<2", "2=2", "3>2", "not 2<2", "not 2>2", "not 2=3", "1=1 and 2=2", "1=2 or 2=2", "2=2 or 1=2",
+            "not (1=1 and 1=2)", "not 1=1 or 1=1", "1=2 and 1=2 or 1=1", "1=1 or 1=2 and 1=2", "(1=2 or 1=1) and 1=1",
+            "1=2 or 1=2 or 1=1", "1=1 and 1=1 and 1=1", "not not 1=1", "not (not 1=1)", "0-7/2=0-3", "(1=1)",
+            "0-7<0-6", "2*3+4*5=26", "7/2*2=6", "2*7/2=7", "10-2-3=5"};
+        String[] not = {"2<2", "3<2", "1=2", "2>2", "1>2", "not 1=1", "1=1 and 1=2", "1=2 and 1=1", "1=2 or 1=2",
+            "not (1=1 or 1=2)", "not not 1=2", "1=1 and 1=1 and 1=2", "1=2 or 1=2 or 1=2", "(1=1 or 1=1) and 1=2"};
+        for (String b : so) due(b, wearBy("wear 5 when " + b + ";wear 6;"), 5);
+        for (String b : not) due(b, wearBy("wear 5 when " + b + ";wear 6;"), 6);
+        due("below 0, towards 0", wearBy("wear 5 when by-7=0-7 and column-7+by*0=0-7;"), 5);
+        due("hour 0 less 7, by 2", sunBy("sun 10+hour-9 when hour-9/2=0-3;sun 77;", 1), 2);
+        due("a part", sunBy("sun 50+by-7*3/2;", 0), 40);
+        int wrapped = 9999 * 9999 * 22;
+        due("it wraps below 0", wrapped < 0, true);
+        due("a part of what is below 0", sunBy("sun 9999*9999*22/9999/9999+50;", 0), wrapped / 9999 / 9999 + 50);
+        due("towards 0", wrapped / 9999 / 9999 != Math.floorDiv(Math.floorDiv(wrapped, 9999), 9999), true);
+    }
+
+    private static int sunBy(String law, int hour) {
+        LetHorizon x = new LetHorizon();
+        tell(x, 0, law);
+        return x.sun(0, hour);
     }
 
     private static void rowFaults() {
@@ -707,6 +779,7 @@ public final class PromisesTest {
         due("coin in thought", x.goes(2, 0), coin - 4 + 7);
         due("scraped in thought: 1 and 2", x.goes(1, 1), 2);
         due("the least ship of an hour", x.goes(5, 3), 1);
+        due("the hour of now is the first", x.goes(1, 3), 1);
         due("breaks at the tenth hour", x.goes(9, 2), 0);
         due("breaks at the tenth hour", x.goes(10, 4), 1);
         due("three of them", x.goes(10, 2) > 0, true);
@@ -771,6 +844,10 @@ public final class PromisesTest {
         due("the lesser ahead", y.smooth(13), 9);
         y.set(0, 0, 9);
         due("one foot", y.smooth(0), 1);
+        LetHorizon z = of(40, 40, 20, 40);
+        due("up to the top", z.smooth(0), 17);
+        due("up to the top", z.smooth(10), 40);
+        due("up to the top", z.smooth(12), 37);
         due("the lesser", y.smooth(12), 9);
         due("nothing done", y.of(1, 0), 0);
     }
@@ -951,6 +1028,9 @@ public final class PromisesTest {
         heights(x, 1, 3, 0);
         due("1 can't be raised", x.game(0), 1);
         due("by two", x.game(1), 2);
+        heights(x, 0, 0, 3);
+        due("the last feet", x.game(0), 2);
+        due("the last feet", x.game(1), 3);
     }
 
     private static void undoing() {
@@ -1080,6 +1160,8 @@ public final class PromisesTest {
         tape();
         texts();
         lawFaults();
+        longLaws();
+        conditions();
         rowFaults();
         laws();
         suns();
