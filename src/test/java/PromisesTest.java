@@ -563,7 +563,7 @@ public final class PromisesTest {
         for (int i = 0; i < 15; i++) law += "wear " + i + " when column>" + (14 - i) + ";";
         for (int again = 0; again < 12; again++) {
             due("fifteen lines", tell(x, 0, law), 15);
-            due("the last one", tell(x, 0, law + "wear 7*1;"), 16);
+            due("the last one", tell(x, 0, law + "wear 1+2*3;"), 16);
             due("wear", x.of(9, 2), 6);
             due("wear", x.of(0, 2), 7);
         }
@@ -826,6 +826,17 @@ public final class PromisesTest {
         due("none then", x.meets(10, 1), 0);
         due("none then", x.meets(10, 2), NONE);
         due("none then", x.meets(10, 3), NONE);
+        due("twelve lines", tell(x, 2, times("pier 0wants 9from 0to 9pays 1;", 11) + "pier 0wants 8from 0to 9pays 9;"), 12);
+        due("eleven alike pay more than the last", x.meets(0, 0), 11);
+        due("eleven alike", x.meets(0, 1), 0b011111111111);
+        due("the first", x.meets(0, 2), 0);
+        due("and the last", x.meets(0, 3), 11);
+        due("twelve lines", tell(x, 2, times("pier 0wants 9from 0to 9pays 1;", 11) + "pier 0wants 8from 0to 9pays 11;"), 12);
+        due("as much: the least set", x.meets(0, 1), 0b011111111111);
+        due("twelve together", tell(x, 2, times("pier 0wants 9from 0to 9pays 99;", 12)), 12);
+        due("all", x.meets(9, 0), 12 * 99);
+        due("all", x.meets(9, 1), 0b111111111111);
+        due("no clash", x.meets(9, 2), NONE);
     }
 
     private static void smooth() {
