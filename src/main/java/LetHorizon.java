@@ -531,6 +531,11 @@ public final class LetHorizon {
             return p >= 0 && p < piers;
         }
 
+        /** A column that was kept with a ship, a pier or a sunset; it is looked at again before it is used. */
+        private int kept(int c) {
+            return isColumn(c) ? c : 0;
+        }
+
         private int allColumns() {
             return (1 << w) - 1;
         }
@@ -542,7 +547,7 @@ public final class LetHorizon {
         /** The column of the pier that a line of the wants speaks of. */
         private int wantedColumn(int want) {
             int p = wants.cell(want, Rows.PIER);
-            return isPier(p) ? pierAt[p] : 0;
+            return isPier(p) ? kept(pierAt[p]) : 0;
         }
     }
 
@@ -1132,7 +1137,7 @@ public final class LetHorizon {
 
         private final Told told;
         private final int[] named = new int[NAMES];
-        private final int[] stack = new int[DEEPEST];
+        private final int[] waiting = new int[DEEPEST];
 
         private Asker(Told told) {
             this.told = told;
@@ -1210,34 +1215,38 @@ public final class LetHorizon {
             }
         }
 
+        /** The value at hand stays aside; those that it will be joined with wait in a row. */
         private int work(int from, int to) {
             int[] steps = told.law.step;
-            int top = 0;
+            int waits = 0;
+            int now = 0;
             for (int i = from; i < to && i < steps.length; i++) {
                 int kind = steps[i] % Law.KINDS;
-                int value = steps[i] / Law.KINDS;
-                int b = top > 0 ? stack[top - 1] : 0;
-                int a = top > 1 ? stack[top - 2] : 0;
-                top += Law.NOT < kind ? -1 : kind < Law.DIVIDE ? 1 : 0;
-                if (top < 1 || top > DEEPEST) {
-                    return 0;
+                int amount = steps[i] / Law.KINDS;
+                int other = 0;
+                if (kind < Law.DIVIDE && waits < DEEPEST) {
+                    waiting[waits] = now;
+                    waits++;
+                } else if (kind > Law.NOT && waits > 0) {
+                    waits--;
+                    other = waiting[waits];
                 }
                 switch (kind) {
-                    case Law.NUMBER: stack[top - 1] = value; break;
-                    case Law.NAME: stack[top - 1] = value < NAMES ? named[value] : 0; break;
-                    case Law.DIVIDE: stack[top - 1] = value > 0 ? b / value : 0; break;
-                    case Law.NOT: stack[top - 1] = 1 - b; break;
-                    case Law.ADD: stack[top - 1] = a + b; break;
-                    case Law.TAKE: stack[top - 1] = a - b; break;
-                    case Law.TIMES: stack[top - 1] = a * b; break;
-                    case Law.BELOW: stack[top - 1] = a < b ? 1 : 0; break;
-                    case Law.ALIKE: stack[top - 1] = a == b ? 1 : 0; break;
-                    case Law.ABOVE: stack[top - 1] = a > b ? 1 : 0; break;
-                    case Law.AND: stack[top - 1] = a & b; break;
-                    default: stack[top - 1] = a | b; break;
+                    case Law.NUMBER: now = amount; break;
+                    case Law.NAME: now = amount < NAMES ? named[amount] : 0; break;
+                    case Law.DIVIDE: now = amount > 0 ? now / amount : 0; break;
+                    case Law.NOT: now = 1 - now; break;
+                    case Law.ADD: now = other + now; break;
+                    case Law.TAKE: now = other - now; break;
+                    case Law.TIMES: now = other * now; break;
+                    case Law.BELOW: now = other < now ? 1 : 0; break;
+                    case Law.ALIKE: now = other == now ? 1 : 0; break;
+                    case Law.ABOVE: now = other > now ? 1 : 0; break;
+                    case Law.AND: now = other & now; break;
+                    default: now = other | now; break;
                 }
             }
-            return top < 1 ? 0 : stack[top - 1];
+            return now;
         }
     }
 
@@ -1324,7 +1333,7 @@ public final class LetHorizon {
 
         private void slideShips(Line l) {
             for (int s = 0; s < told.ships; s++) {
-                int here = l.at[s];
+                int here = told.kept(l.at[s]);
                 int there = lowerBeside(l, here);
                 if (l.height[here] - l.height[there] > asker.slide(l, here)) {
                     l.at[s] = there;
@@ -1345,7 +1354,7 @@ public final class LetHorizon {
 
         private void scrapeShips(Line l) {
             for (int s = 0; s < told.ships; s++) {
-                int lacks = told.draught[s] - l.height[l.at[s]];
+                int lacks = told.draught[s] - l.height[told.kept(l.at[s])];
                 if (lacks > 0) {
                     l.scraped[s]++;
                     firstScraped = firstScraped == NONE ? s : firstScraped;
@@ -1571,7 +1580,7 @@ public final class LetHorizon {
 
         private boolean fitsSunsets() {
             for (int i = 0; i < told.sunsets; i++) {
-                if (asker.dusk(spare, told.sunsetColumn[i]) != told.sunsetHour[i]) {
+                if (asker.dusk(spare, told.kept(told.sunsetColumn[i])) != told.sunsetHour[i]) {
                     return false;
                 }
             }
@@ -1616,7 +1625,7 @@ public final class LetHorizon {
         }
 
         private int sees(int pier) {
-            int own = told.pierAt[pier];
+            int own = told.kept(told.pierAt[pier]);
             int eye = line.height[own] + told.pierEye[pier];
             int set = 1 << own;
             for (int c = own - 1; c >= 0; c--) {
@@ -1724,7 +1733,7 @@ public final class LetHorizon {
         private int shareOf(int c, int pier) {
             int all = 0;
             for (int p = 0; p < told.piers; p++) {
-                weight[p] = duskOr24(line, told.pierAt[p]) + 1;
+                weight[p] = duskOr24(line, told.kept(told.pierAt[p])) + 1;
                 all += weight[p];
             }
             if (all < 1) {

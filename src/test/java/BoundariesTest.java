@@ -498,6 +498,24 @@ public final class BoundariesTest {
         due("sun at hour 20", new LetHorizon().sun(0, 20), 0);
         due("sun at hour 21 is not below 0", new LetHorizon().sun(0, 21), 0);
 
+        sentence(0, "B = A {or A}. A = C {and C}.");
+        for (int bits = 0; bits < 16; bits++) {
+            String[] c = new String[4];
+            boolean[] so = new boolean[4];
+            for (int i = 0; i < 4; i++) {
+                so[i] = (bits >> i & 1) == 1;
+                c[i] = so[i] ? "1=1" : "1=2";
+            }
+            due("or or or " + bits, isSo(c[0] + " or " + c[1] + " or " + c[2] + " or " + c[3]), so[0] || so[1] || so[2] || so[3]);
+            due("and and and " + bits, isSo(c[0] + " and " + c[1] + " and " + c[2] + " and " + c[3]), so[0] && so[1] && so[2] && so[3]);
+            due("and or and " + bits, isSo(c[0] + " and " + c[1] + " or " + c[2] + " and " + c[3]), so[0] && so[1] || so[2] && so[3]);
+            due("or and or " + bits, isSo(c[0] + " or " + c[1] + " and " + c[2] + " or " + c[3]), so[0] || so[1] && so[2] || so[3]);
+            due("(or) and (or) " + bits, isSo("(" + c[0] + " or " + c[1] + ") and (" + c[2] + " or " + c[3] + ")"),
+                (so[0] || so[1]) && (so[2] || so[3]));
+            due("not ( or not and ) " + bits, isSo("not (" + c[0] + " or not " + c[1] + " and " + c[2] + ") or " + c[3]),
+                !(so[0] || !so[1] && so[2]) || so[3]);
+        }
+
         sentence(0, "hour: HOUR modulo 24; day: HOUR by 24;");
         x = by("wear hour;slide day;", 10, 10, 10);
         for (int hour : new int[] {0, 1, 23, 24, 25, 47, 48, 959}) {
@@ -532,6 +550,10 @@ public final class BoundariesTest {
         due("at 0", x.sun(1, 0), 24);
         due("at 23", x.sun(1, 23), 47);
         due("of another column", x.sun(2, 23), 1);
+    }
+
+    private static boolean isSo(String condition) {
+        return told("sun 7 when " + condition + ";sun 8;", 3) == 7;
     }
 
     /** What the law tells of the word with that number, of column 0 of ten. */
@@ -632,6 +654,9 @@ public final class BoundariesTest {
         due("at the upper rim", slidTo(2, 10, 7, 10), 1);
         due("at the upper rim, just slide", slidTo(2, 10, 8, 10), 2);
         due("one column an hour", slidTo(0, 30, 20, 10), 1);
+        due("nothing lies beyond the upper rim", slidTo(2, 20, 25, 20), 2);
+        due("nothing lies beyond the lower rim", slidTo(0, 20, 25, 20), 0);
+        due("the upper rim of fourteen", slidTo(13, 9, 9, 9, 9, 9, 9, 9, 9, 9, 9, 9, 9, 9, 12), 12);
         x = by("wear 0;slide 40 when column=1;slide 0;", 10, 10, 9);
         x.ship(1, 0);
         x.ship(2, 0);
@@ -656,6 +681,11 @@ public final class BoundariesTest {
         bookLine(x, before + 1, 0, 3, 2, 30);
         x.hours(60);
         due("hour by hour", x.shipOf(2, 2), 61);
+        x = of(10, 10, 10, 10, 10, 10, 10, 10, 10, 10, 10, 10, 10, 10);
+        for (int s = 0; s < 8; s++) x.ship(13 - s, 11);
+        due("eight ships in thought", x.goes(2, 1), 16);
+        x.hours(1);
+        for (int s = 0; s < 8; s++) due("eight ships: " + s, x.shipOf(s, 2), 1);
 
         sentence(0, "(d) Line by line of WANTS for this hour of the day (both HOURS too): "
             + "is HEIGHT of the PIER's COLUMN just what is wanted, COIN is so much more.");
@@ -1012,6 +1042,18 @@ public final class BoundariesTest {
         due("one of 41 has another", x.lifted(2), 1);
         x.sunset(1, 0);
         due("one alone: fewer than two", x.lifted(2), NONE);
+        x = by("sun 0 when column=0 and hour=height;sun 99;", 20, 20, 20);
+        due("the first by height", x.lifted(2), 0);
+        tell(x, 0, "sun 0 when column=2 and hour=height;sun 99;");
+        due("asked anew: the last", x.lifted(2), 2);
+        tell(x, 0, "sun 99 when column=1 and hour<height;sun 0;");
+        due("asked anew: the second", x.lifted(2), 1);
+        tell(x, 0, "sun 0 when column=0 and height<20;sun 99;");
+        due("asked anew: the first", x.lifted(2), 0);
+        x = by("sun 0 when column=13 and hour=height;sun 99;", 20, 20, 20, 20, 20, 20, 20, 20, 20, 20, 20, 20, 20, 20);
+        due("of fourteen the last", x.lifted(2), 13);
+        x.sunset(13, 23);
+        due("of fourteen the last: height 23", x.lifted(1), 3);
     }
 
     private static void seesBounds() {
@@ -1073,6 +1115,9 @@ public final class BoundariesTest {
         due("L 39", x.coils(39, 0), NONE);
         due("L 0", x.coils(0, 0), NONE);
         due("L 201", x.coils(201, 0), NONE);
+        due("L 0 where all are 0", of(0, 0, 0).coils(0, 0), NONE);
+        due("each part to its L", of(10, 10, 1).coils(10, 0), 3);
+        due("each part to its L", of(10, 9, 1).coils(10, 0), 2);
 
         sentence(0, "MOORS: SHIPS each to a COLUMN of its own at which HEIGHT is DRAUGHT at least: the least sum of COLUMNS "
             + "between where it is AT and that; of a SHIP its COLUMN: of several ways the first (SHIP by SHIP, the lesser).");
@@ -1295,6 +1340,22 @@ public final class BoundariesTest {
         x.raise(0, 6);
         x.image(false);
         due("taken anew", x.of(0, 0), 5);
+        x = busy();
+        x.image(true);
+        x.set(0, 0, 3);
+        then = seen(x);
+        x.sea(14);
+        for (int s = 0; s < 8; s++) x.ship(s + 6, 30 - s);
+        for (int p = 0; p < 6; p++) x.pier(p + 8, 9 - p);
+        for (int i = 0; i < 8; i++) x.sunset(i + 1, 23 - i);
+        x.set(0, 0, 9);
+        x.set(1, 0, 77);
+        tell(x, 1, "at 0 drop 9;".repeat(9));
+        tell(x, 2, "pier 5wants 0from 0to 23pays 77;".repeat(9));
+        tell(x, 0, "wear 50;slide 40;cost 99;sun 3;sun 9;");
+        x.hours(5);
+        x.image(false);
+        leaves("image(false) after all was told anew", x, then);
     }
 
     // The promises, one by one.
@@ -1612,6 +1673,11 @@ public final class BoundariesTest {
         for (int what : new int[] {-1, 4, Integer.MIN_VALUE, Integer.MAX_VALUE}) due("book(0, " + what + ")", x.book(0, what), NONE);
         x.undo();
         due("undone: none", x.book(0, 0), NONE);
+        x.lift(1);
+        for (int i = 0; i < 10; i++) {
+            due("book(" + i + ", -1)", x.book(i, -1), NONE);
+            due("book(" + i + ", 4)", x.book(i, 4), NONE);
+        }
     }
 
     private static void thoughtPromises() {
@@ -1642,7 +1708,10 @@ public final class BoundariesTest {
                 due("meets(" + hour + ", " + what + ")", x.meets(hour, what), NONE);
             }
         }
-        for (int what : new int[] {-1, 4, Integer.MIN_VALUE, Integer.MAX_VALUE}) due("meets(0, " + what + ")", x.meets(0, what), NONE);
+        for (int what : new int[] {-1, 4, 5, Integer.MIN_VALUE, Integer.MAX_VALUE}) {
+            due("meets(0, " + what + ")", x.meets(0, what), NONE);
+            due("meets(23, " + what + ")", x.meets(23, what), NONE);
+        }
         int[] without = {0, 0, NONE, NONE};
         for (int what = 0; what < 4; what++) due("no wants", new LetHorizon().meets(0, what), without[what]);
 
