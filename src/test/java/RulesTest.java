@@ -48,6 +48,9 @@ public final class RulesTest {
             }
         }
         if (!open.equals(due)) fault("rule 1: the face is " + open);
+        for (Method m : LetHorizon.class.getDeclaredMethods()) {
+            if (!Modifier.isPublic(m.getModifiers()) && names.contains(m.getName())) fault("rule 1: a private method with a public name: " + m);
+        }
         for (Field f : LetHorizon.class.getDeclaredFields()) {
             boolean open1 = Modifier.isPublic(f.getModifiers());
             if (open1 ? !f.getName().equals("NONE") : !Modifier.isPrivate(f.getModifiers())) fault("rule 1: " + f);
